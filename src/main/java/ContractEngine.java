@@ -593,7 +593,7 @@ public final class ContractEngine {
         }
     }
 
-    /** The one int that an instruction adds which only looks something up. */
+    /** The one int that an instruction adds which only looks something up; six calls deep, so it calls nothing more. */
     private int lookUp(int op, int b, int first) {
         int top = depth - 1;
         switch (op) {
@@ -639,6 +639,7 @@ public final class ContractEngine {
         eventCount++;
     }
 
+    /** Six calls deep like lookUp: it looks at the account's number itself. */
     private void send(int first) {
         int account = stack[first];
         if (waiting >= MOST_WAITING || account < 0 || account >= ACCOUNTS) {
