@@ -1,26 +1,5 @@
 /** The promises 1 to 16, one method each: ordinary inputs, the edges that the document names, wrong inputs. */
-public final class PromisesTest {
-    private static final int PUSH = 0, ARG = 1, LOAD = 6, STORE = 7, ADD = 8, CALL = 18, RETURN = 19, REVERT = 20, LOG = 21, SEND = 23;
-    private static final int[] NO_ACCOUNTS = {-1, 6, 7, Integer.MIN_VALUE, Integer.MAX_VALUE};
-
-    private static int wrong = 0;
-    private static String part = "";
-
-    private static void due(String what, long got, long want) {
-        if (got != want) {
-            wrong++;
-            System.out.println(part + ": " + what + " answered " + got + ", due is " + want);
-        }
-    }
-
-    /** Deploys a program told as op, b, op, b, .. */
-    private static void program(ContractEngine x, int account, int... code) {
-        for (int i = 0; i < code.length; i += 2) {
-            due("put", x.put(code[i], code[i + 1]), i / 2 + 1);
-        }
-        due("deploy(" + account + ")", x.deploy(account), code.length / 2);
-    }
-
+public final class PromisesTest extends Checks {
     /** An account that stores its argument in cell 0 and answers it. */
     private static void keeper(ContractEngine x, int account) {
         program(x, account, ARG, 0, STORE, 0, ARG, 0, RETURN, 0);
@@ -546,41 +525,22 @@ public final class PromisesTest {
     }
 
     public static void main(String[] args) {
-        part = "constants";
-        constants();
-        part = "promise 1";
-        promise1();
-        part = "promise 2";
-        promise2();
-        part = "promise 3";
-        promise3();
-        part = "promise 4";
-        promise4();
-        part = "promise 4, most money";
-        mostMoney();
-        part = "promise 5";
-        promise5();
-        part = "promise 6";
-        promise6();
-        part = "promise 6, refund";
-        promise6Refund();
-        part = "promise 7";
-        promise7();
-        part = "promises 8 and 9";
-        promises8And9();
-        part = "promises 10 and 11";
-        promises10And11();
-        part = "promise 12";
-        promise12();
-        part = "promise 13";
-        promise13();
-        part = "promise 14";
-        promise14();
-        part = "promises 15 and 16";
-        promises15And16();
-        System.out.println(wrong == 0 ? "all answers are as due" : wrong + " answers are not as due");
-        if (wrong != 0) {
-            System.exit(1);
-        }
+        about("constants", PromisesTest::constants);
+        about("promise 1", PromisesTest::promise1);
+        about("promise 2", PromisesTest::promise2);
+        about("promise 3", PromisesTest::promise3);
+        about("promise 4", PromisesTest::promise4);
+        about("promise 4, most money", PromisesTest::mostMoney);
+        about("promise 5", PromisesTest::promise5);
+        about("promise 6", PromisesTest::promise6);
+        about("promise 6, refund", PromisesTest::promise6Refund);
+        about("promise 7", PromisesTest::promise7);
+        about("promises 8 and 9", PromisesTest::promises8And9);
+        about("promises 10 and 11", PromisesTest::promises10And11);
+        about("promise 12", PromisesTest::promise12);
+        about("promise 13", PromisesTest::promise13);
+        about("promise 14", PromisesTest::promise14);
+        about("promises 15 and 16", PromisesTest::promises15And16);
+        end();
     }
 }

@@ -1,68 +1,5 @@
 /** What the document's terms say: instructions, costs, faults, denials, undoing, warm cells, refunds, messages. */
-public final class TermsTest {
-    private static final int PUSH = 0, ARG = 1, CALLER = 2, SELF = 3, VALUE = 4, HAS = 5, LOAD = 6, STORE = 7, ADD = 8, SUB = 9,
-        MUL = 10, LESS = 11, SAME = 12, DUP = 13, DROP = 14, SWAP = 15, JUMP = 16, JZERO = 17, CALL = 18, RETURN = 19, REVERT = 20,
-        LOG = 21, LEFT = 22, SEND = 23;
-    private static final int OK = 0, REVERTED = 1, OUT = 2, FAULT = 3, DENIED = 4;
-
-    private static final int[] COST = {1, 1, 1, 1, 1, 3, 5, 8, 1, 1, 1, 1, 1, 1, 1, 1, 1, 1, 8, 1, 1, 4, 1, 5};
-    private static final int[] TAKES = {0, 0, 0, 0, 0, 1, 0, 1, 2, 2, 2, 2, 2, 1, 1, 2, 0, 1, 3, 1, 1, 1, 0, 3};
-    private static final int[] ADDS = {1, 1, 1, 1, 1, 1, 1, 0, 1, 1, 1, 1, 1, 2, 0, 2, 0, 0, 2, 0, 0, 0, 1, 0};
-
-    private static int wrong = 0;
-    private static String part = "";
-
-    private static void due(String what, long got, long want) {
-        if (got != want) {
-            wrong++;
-            System.out.println(part + ": " + what + " answered " + got + ", due is " + want);
-        }
-    }
-
-    /** Deploys a program told as op, b, op, b, .. */
-    private static void program(ContractEngine x, int account, int... code) {
-        for (int i = 0; i < code.length; i += 2) {
-            due("put", x.put(code[i], code[i + 1]), i / 2 + 1);
-        }
-        due("deploy(" + account + ")", x.deploy(account), code.length / 2);
-    }
-
-    private static int[] join(int[]... parts) {
-        int length = 0;
-        for (int[] piece : parts) {
-            length += piece.length;
-        }
-        int[] all = new int[length];
-        int at = 0;
-        for (int[] piece : parts) {
-            for (int value : piece) {
-                all[at++] = value;
-            }
-        }
-        return all;
-    }
-
-    private static int[] code(int... code) {
-        return code;
-    }
-
-    /** A call of another account whose two answers stay on the stack. */
-    private static int[] callOf(int account, int amount, int arg, int b) {
-        return code(PUSH, account, PUSH, amount, PUSH, arg, CALL, b);
-    }
-
-    private static int[] sendTo(int account, int amount, int arg) {
-        return code(PUSH, account, PUSH, amount, PUSH, arg, SEND, 0);
-    }
-
-    private static int[] pushes(int many) {
-        int[] code = new int[2 * many];
-        for (int i = 0; i < many; i++) {
-            code[2 * i + 1] = 1;
-        }
-        return code;
-    }
-
+public final class TermsTest extends Checks {
     /** The answer of a new engine's account 4 to one program, called with amount 30, argument 9 and energy 100. */
     private static void answers(String what, int want, int... code) {
         ContractEngine x = new ContractEngine(400);
@@ -598,37 +535,21 @@ public final class TermsTest {
     }
 
     public static void main(String[] args) {
-        part = "instructions";
-        instructions();
+        about("instructions", TermsTest::instructions);
         costsAndStack();
-        part = "jumps";
-        jumps();
-        part = "calls of accounts";
-        callsOfAccounts();
-        part = "denied calls";
-        deniedCalls();
-        part = "five under way";
-        fiveUnderWay();
-        part = "energy of calls";
-        energyOfCalls();
+        about("jumps", TermsTest::jumps);
+        about("calls of accounts", TermsTest::callsOfAccounts);
+        about("denied calls", TermsTest::deniedCalls);
+        about("five under way", TermsTest::fiveUnderWay);
+        about("energy of calls", TermsTest::energyOfCalls);
         undone();
-        part = "undone inside";
-        undoneInside();
-        part = "warm cells";
-        warmCells();
-        part = "refunds";
-        refunds();
-        part = "messages in order";
-        messagesInOrder();
-        part = "messages that end otherwise";
-        messagesThatEndOtherwise();
-        part = "six messages";
-        sixMessages();
-        part = "messages undone";
-        messagesUndone();
-        System.out.println(wrong == 0 ? "all answers are as due" : wrong + " answers are not as due");
-        if (wrong != 0) {
-            System.exit(1);
-        }
+        about("undone inside", TermsTest::undoneInside);
+        about("warm cells", TermsTest::warmCells);
+        about("refunds", TermsTest::refunds);
+        about("messages in order", TermsTest::messagesInOrder);
+        about("messages that end otherwise", TermsTest::messagesThatEndOtherwise);
+        about("six messages", TermsTest::sixMessages);
+        about("messages undone", TermsTest::messagesUndone);
+        end();
     }
 }
