@@ -619,8 +619,7 @@ public final class TermEdgesTest extends Checks {
 
     private static void stackInOrder() {
         ContractEngine x = withProgram(0, PUSH, 5, PUSH, 7, SWAP, 0, LOG, 1, LOG, 2, PUSH, 8, DUP, 0, LOG, 3, LOG, 4, PUSH, 9, PUSH, 6,
-            DROP, 0, LOG, 5, PUSH, 0,
-            RETURN, 0);
+            DROP, 0, LOG, 5, PUSH, 0, RETURN, 0);
         due("call", x.call(0, 0, 0, 100), OK);
         same("what is taken", events(x), " (0 1 5) (0 2 7) (0 3 8) (0 4 8) (0 5 9)");
     }
@@ -671,7 +670,7 @@ public final class TermEdgesTest extends Checks {
     }
 
     private static void notWarmByAnUndoneCall() {
-        // Account 1 touches its cell by LOAD or STORE and ends as told, with 20 energy; then account 2 of the same program is what it was.
+        // Account 1 touches its cell by LOAD or STORE and ends as told, with 20 energy; then once more.
         int[][] touches = {code(LOAD, 0, DROP, 0), code(PUSH, 1, STORE, 0)};
         int[] cold = {6, 9};
         int[] warm = {3, 4};
@@ -747,7 +746,7 @@ public final class TermEdgesTest extends Checks {
     }
 
     private static void refundIsAgainWhatItWas() {
-        // Account 1's cells 0 and 1 are 1; each call of it sets the cell of its argument to 0 and is OK or undone as the second digit says.
+        // Cells 0 of accounts 1 and 2 are 1. Account 2 sets its own to 0 and is OK; account 1 does so twice and ends as told.
         int[] set = {PUSH, 1, STORE, 0, PUSH, 1, STORE, 1, PUSH, 0, RETURN, 0};
         int[][] endings = {code(PUSH, 0, RETURN, 0), code(PUSH, 0, REVERT, 0), code(JUMP, 2), code(DROP, 0)};
         for (int end = OK; end <= FAULT; end++) {
